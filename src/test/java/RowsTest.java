@@ -130,6 +130,9 @@ public final class RowsTest {
         Check.fill(x, 0, 5, 2);
         check.due("mean(0)", x.mean(0), 1);
         check.due("asked() 7 by 2", x.asked(), 3);
+        Check.fill(x, 0, -8);
+        check.due("mean(0) of one", x.mean(0), 1);
+        check.due("asked() of one", x.asked(), -8);
         Check.fill(x, 0, -5, -2);
         x.mean(0);
         check.due("asked() -7 by 2", x.asked(), -3);
