@@ -261,7 +261,8 @@ public final class HillSeer {
     }
 
     public int undo(int n) {
-        if (n < 0 || n >= camp.done) {
+        // From the number that the next DEED would have there are none yet: 0 are undone.
+        if (n < 0 || n > camp.done) {
             return BAD;
         }
         int undone = camp.done - n;
@@ -1000,7 +1001,7 @@ public final class HillSeer {
             }
             place++;
             int tens = figureHere(text);
-            if (tens < 0) {
+            if (tens < 0 || 10 * tens >= TENTS) {
                 return false;
             }
             place++;

@@ -5,6 +5,7 @@ public final class DeedsTest {
     public static void main(String[] args) {
         deeds();
         silence();
+        undoneFromEachNumber();
         wrongNumbers();
         full();
         check.end();
@@ -36,8 +37,10 @@ public final class DeedsTest {
         check.due("GIVEN of 7", x.asked(), -4);
         check.due("keep(1)", x.keep(1), 6);
         long sixth = x.digest();
-        check.due("undo(6)", x.undo(6), HillSeer.BAD);
+        check.due("undo(7)", x.undo(7), HillSeer.BAD);
         check.due("undo(-1)", x.undo(-1), HillSeer.BAD);
+        check.due("undo(6) of six", x.undo(6), 0);
+        check.due("digest() as it was, of six", x.digest(), sixth);
         check.due("undo(3)", x.undo(3), 3);
         state("undone", x, 0, 3, 3, 2754, 60);
         x.tent(3, 0);
@@ -54,7 +57,9 @@ public final class DeedsTest {
         state("all undone", x, 0, 0, 0, 0, 0);
         check.due("keep(1) over it", x.keep(1), 0);
         check.due("count(10)", x.count(10), 1);
-        check.due("undo(0) of none", x.undo(0), HillSeer.BAD);
+        check.due("undo(0) of none", x.undo(0), 0);
+        check.due("undo(1) of none", x.undo(1), HillSeer.BAD);
+        check.due("count(2) of none", x.count(2), 0);
         HillSeer y = Check.camped(Check.ALL_KINDS);
         y.keep(1);
         check.due("digest() as at first", x.digest(), y.digest());
@@ -70,6 +75,43 @@ public final class DeedsTest {
         state("then", x, 0, 3, 1, 6, 0);
         check.due("change(1, 2) of like fates", x.change(1, 2), 2);
         state("and then", x, 0, 4, 1, 6, 0);
+    }
+
+    private static HillSeer campWithDeeds(int many) {
+        HillSeer x = Check.camped(Check.ALL_KINDS);
+        for (int d = 0; d < many; d++) {
+            if (d % 3 == 0) {
+                x.speak(d % 6);
+            } else if (d % 3 == 1) {
+                x.change(d % 12, (5 * d + 2) % 12 == d % 12 ? (d + 1) % 12 : (5 * d + 2) % 12);
+            } else {
+                x.day();
+            }
+        }
+        check.due("DEEDS that were done", x.count(2), many);
+        return x;
+    }
+
+    /** As many are undone as there are from n on, none too; a number behind these is BAD. */
+    private static void undoneFromEachNumber() {
+        for (int done = 0; done <= 40; done++) {
+            for (int n = 0; n <= done; n++) {
+                HillSeer x = campWithDeeds(done);
+                check.due("undo(" + (done + 1) + ") of " + done, x.undo(done + 1), HillSeer.BAD);
+                check.due("undo(-1) of " + done, x.undo(-1), HillSeer.BAD);
+                check.due("undo(" + n + ") of " + done, x.undo(n), done - n);
+                check.due("undo(" + n + ") again", x.undo(n), 0);
+                check.due("its digest()", x.digest(), campWithDeeds(n).digest());
+            }
+        }
+        HillSeer none = new HillSeer();
+        long before = none.digest();
+        check.due("undo(0) without HILLS", none.undo(0), 0);
+        check.due("undo(1) without HILLS", none.undo(1), HillSeer.BAD);
+        check.due("undo(-1) without HILLS", none.undo(-1), HillSeer.BAD);
+        check.due("undo of the most without HILLS", none.undo(Integer.MAX_VALUE), HillSeer.BAD);
+        check.due("undo of the least without HILLS", none.undo(Integer.MIN_VALUE), HillSeer.BAD);
+        check.due("digest() without HILLS", none.digest(), before);
     }
 
     private static void wrongNumbers() {

@@ -205,7 +205,7 @@ final class Model {
 
     int undo(int n) {
         int done = states.size() - 1;
-        if (n < 0 || n >= done) {
+        if (n < 0 || n > done) {
             return -1;
         }
         states = new ArrayList<>(states.subList(0, n + 1));

@@ -32,7 +32,7 @@ public final class RowsTest {
         check.due("new hill(0, 0)", x.hill(0, 0), HillSeer.BAD);
         check.due("new tent(0, 0)", x.tent(0, 0), HillSeer.STATE);
         check.due("new day()", x.day(), HillSeer.STATE);
-        check.due("new undo(0)", x.undo(0), HillSeer.BAD);
+        check.due("new undo(0)", x.undo(0), 0);
     }
 
     private static void row() {
