@@ -79,6 +79,11 @@ final class EdgesOfCamping {
         HillSeer silent = Check.camped("t444444444444h009");
         fees(silent, 9, new int[] {0, 9, 9}, 0, 0);
         fees(silent, 9, new int[] {7, 9, 9}, 63, 0);
+        HillSeer six = Check.camped("t444444444443h001h011h021h031h041h111");
+        fees(six, 9, new int[] {1, 2, 3}, 27, 5);
+        Check.write(six, 0, "t444444444443h001h011h021h031h041");
+        six.camp(0);
+        fees(six, 9, new int[] {1, 2, 3}, 9, 0);
         HillSeer full = Edges.fullCamp("t444444444444h009").get();
         fees(full, 2, new int[] {7, 9, 9}, 14, 0);
         edges.of(30, "the HILL of this DAY by asked() (the first; NONE: n is 0).");

@@ -65,6 +65,12 @@ final class EdgesOfChances {
         king("t334444444433h001h111", 0, 1, 2);
         king("t433344444444h021", 0, 1, 1);
         king("t353353353353h001h031h061h091", 0, 1, 2);
+        // Any CHANGE would bring a TENT with less into view: the people let none change places.
+        king("t434343434343i006", 0, 0, 0);
+        // TENTS 11 and 0 are not side by side: none with more comes into view.
+        king("t333333333339h001", 0, 1, 1);
+        // What would be said from a HILL that the king does not choose binds none.
+        king("t990000000000h003h029", 0, 9, 9);
     }
 
     private void odds() {

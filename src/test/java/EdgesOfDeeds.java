@@ -217,11 +217,11 @@ final class EdgesOfDeeds {
                 x.change(1, 2);
                 edges.due("on(" + k + ") again", x.on(k), many);
                 edges.due("digest() again", x.digest(), before);
+                HillSeer same = done(many);
+                same.keep(k);
+                same.undo(many / 2);
                 edges.due("undo(" + many / 2 + ")", x.undo(many / 2), many - many / 2);
-                HillSeer half = done(many / 2);
-                edges.due("count(4) undone", x.count(4), half.count(4));
-                edges.due("count(5) undone", x.count(5), half.count(5));
-                edges.due("count(1) undone", x.count(1), half.count(1));
+                edges.due("digest() undone", x.digest(), same.digest());
             }
         }
         HillSeer x = done(3);

@@ -66,6 +66,9 @@ final class EdgesOfNotes {
         x.change(11, 3);
         edges.due("from(0) behind a CHANGE", x.from(0), 16);
         edges.due("count(1): aside", x.count(1), 1);
+        HillSeer none = new HillSeer();
+        none.row(0, 0);
+        edges.due("from(0) without HILLS", none.from(0), 0);
         HillSeer one = noted("t543333333334f001", 0, 1, 1, 0);
         edges.due("from(0) of a FOGGY one", one.from(0), 1);
         Check.fill(one, 0, 0, 1, 1, 1);

@@ -47,6 +47,12 @@ final class EdgesOfOrders {
         alike.row(5, 40);
         edges.due("curse(5) of alike", alike.curse(5), 9);
         order("alike", alike, 5, 0, 1, 2, 3, 4, 5);
+        HillSeer none = Check.camped("t999999999999h009h039h119");
+        edges.due("curse(2) of no CURSE", none.curse(2), 0);
+        order("no CURSE", none, 2, 0, 1, 2);
+        last.speak(0);
+        edges.due("curse(0) behind a BLESSING", last.curse(0), 8);
+        order("behind a BLESSING", last, 0, 0, 5, 1, 2, 3, 4);
         HillSeer one = Check.camped("t444444444444h001");
         for (int r = 0; r < 6; r++) {
             edges.due("count(8)", one.count(8), r);
@@ -77,7 +83,12 @@ final class EdgesOfOrders {
         HillSeer last = Check.camped(LAST_BLESSES);
         edges.due("spare(0) of the last one", last.spare(0), 0);
         order("the last one first", last, 0, 5, 0, 1, 2, 3, 4);
-        edges.due("spare(0) of all", Check.camped("t000000000000h009h039").spare(0), 12);
+        last.speak(0);
+        edges.due("spare(0) behind a CURSE", last.spare(0), 1);
+        order("behind a CURSE", last, 0, 0, 5, 1, 2, 3, 4);
+        HillSeer all = Check.camped("t000000000000h009h039");
+        edges.due("spare(0) of all", all.spare(0), 12);
+        order("all", all, 0, 0, 1);
         HillSeer alike = Check.camped("t000000000000h009h009h009h009h009h009");
         alike.row(5, 40);
         edges.due("spare(5) of alike", alike.spare(5), 9);
@@ -130,6 +141,8 @@ final class EdgesOfOrders {
         orders(three, 3, 3, 7);
         orders(three, 2, 3, 3);
         orders(three, 0, 0, 0);
+        orders(Check.camped("t344444444444h001"), 1, 1, 1);
+        orders(Check.camped("t444444444443h111"), 1, 1, 2048);
         three.speak(0);
         orders(three, 3, 6, 7);
     }

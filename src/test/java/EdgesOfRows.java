@@ -220,6 +220,7 @@ final class EdgesOfRows {
         same("all of it", x, 0, 2, 3, 7, 8, 5);
         same("all of it, taken", x, 1, 7, 8, 5);
         edges.due("copy of none", x.copy(1, 0, 0, 0, 0), 1);
+        edges.due("copy of none behind the last places", x.copy(1, 3, 0, 5, 0), 1);
         same("none", x, 0, 2, 3, 7, 8, 5);
         HillSeer wide = new HillSeer();
         wide.row(0, 40);
@@ -264,7 +265,7 @@ final class EdgesOfRows {
         edges.of(6, "BEYOND: not so many there.");
         int[][] beyond = {{0, -1, 1, 0, 1}, {0, 0, 1, -1, 1}, {0, 3, 1, 0, 1}, {0, 0, 1, 2, 1}, {0, 2, 1, 0, 2},
             {0, 0, 1, 1, 2}, {0, 0, 1, 0, 3}, {1, 0, 0, 0, 3}, {2, 0, 0, 0, 1}, {0, 0, 2, 0, 1}, {0, 0, 0, 1, 3},
-            {0, 0, 1, 0, 41}, {0, 1, 1, 1, Edges.MOST}, {0, Edges.MOST, 1, 0, 1}, {0, 0, 1, Edges.MOST, 1},
+            {0, 4, 1, 0, 0}, {0, 0, 1, 3, 0}, {0, 0, 1, 0, 41}, {0, 1, 1, 1, Edges.MOST}, {0, Edges.MOST, 1, 0, 1}, {0, 0, 1, Edges.MOST, 1},
             {0, Edges.MOST, 1, Edges.MOST, Edges.MOST}, {0, Edges.LEAST, 1, 0, 1}, {0, 0, 1, Edges.LEAST, 1}};
         for (int[] b : beyond) {
             edges.finds(Edges.BEYOND, EdgesOfRows::three, "copy" + java.util.Arrays.toString(b),

@@ -105,6 +105,12 @@ final class EdgesOfSeen {
                 edges.due("waits(0, 2) of TENT " + tent + ", " + hill, y.waits(0, 2), want);
             }
         }
+        HillSeer fog = Check.camped("t944444444444f011f021");
+        edges.due("waits(0, 1) of a FOGGY one, which sees nothing on odd DAYS", fog.waits(0, 1), Edges.NONE);
+        edges.due("waits(1, 1) of a FOGGY one on an even DAY", fog.waits(1, 1), 2);
+        fog.day();
+        edges.due("waits(0, 1) from an odd DAY on", fog.waits(0, 1), 1);
+        edges.due("waits(1, 1) from an odd DAY on", fog.waits(1, 1), Edges.NONE);
         HillSeer x = Check.camped("t444444444494h112");
         edges.due("waits(0, 1) of 10", x.waits(0, 1), 1);
         x.change(10, 0);

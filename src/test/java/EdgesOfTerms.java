@@ -326,6 +326,13 @@ final class EdgesOfTerms {
         state("a CURSE", x, 0, 3, 5, 0, 3);
         x.speak(1);
         state("a BLESSING", x, 0, 4, 5, 12, 3);
+        HillSeer more = Check.camped("t999000444444h002h021h032h051");
+        more.speak(0);
+        more.speak(1);
+        state("two BLESSINGS", more, 0, 2, 0, 7, 0);
+        more.speak(2);
+        more.speak(3);
+        state("two CURSES", more, 0, 4, 6, 7, 56);
         edges.of(0, "GOLD is more by the FEES of the king: 3 for a CURSE, 1 for SILENCE, 0 for a BLESSING.");
         HillSeer y = Check.camped("t345444444444h001h011h021");
         for (int times = 1; times <= 13; times++) {

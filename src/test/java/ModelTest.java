@@ -2,10 +2,14 @@ import java.util.ArrayList;
 import java.util.List;
 import java.util.Random;
 
-/** Calls by lot on CAMPS by lot, each answer against the model's. The lots are the same in every run. */
+/**
+ * Calls by lot on CAMPS by lot, each answer against the model's. The lots are the same in every run. Each object is
+ * used for less than 512 calls: behind these the document leaves the answers free.
+ */
 public final class ModelTest {
-    private static final int CAMPS = 400;
-    private static final int CALLS = 120;
+    private static final int CAMPS = 2000;
+    private static final int CALLS = 25;
+    private static final int[] COUNTS = {0, 1, 2, 3, 4, 5, 6, 7, 10};
     private static final Check check = new Check();
 
     private final Random random;
@@ -85,10 +89,8 @@ public final class ModelTest {
         }
         check.due(where + "asked()", x.asked(), model.asked);
         check.parts(where, x, model.upper, model.lower);
-        for (int what = 0; what <= 7; what++) {
-            check.due(where + "count(" + what + ")", x.count(what), model.count(what));
-        }
-        check.due(where + "count(10)", x.count(10), model.count(10));
+        int what = COUNTS[random.nextInt(COUNTS.length)];
+        check.due(where + "count(" + what + ")", x.count(what), model.count(what));
     }
 
     private void deed(String where, int which) {
