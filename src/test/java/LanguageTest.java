@@ -26,7 +26,9 @@ public final class LanguageTest {
     public static void main(String[] args) throws IOException {
         face();
         names();
-        source(Files.readString(Path.of("src/main/java/HillSeer.java")));
+        String source = Files.readString(Path.of("src/main/java/HillSeer.java"));
+        faceOfDocument(source);
+        source(source);
         check.end();
     }
 
@@ -54,6 +56,24 @@ public final class LanguageTest {
         }
         check.due("the constants " + constants,
                 constants.equals(Set.of("BAD", "FULL", "FINDING", "STATE", "SPENT", "NONE")) ? 1 : 0, 1);
+    }
+
+    /** Every line of the document's face, names of numbers and all, stands in the source. */
+    private static void faceOfDocument(String source) throws IOException {
+        Path path = Path.of("../shared/DOC.md");
+        if (!Files.exists(path)) {
+            return;
+        }
+        String document = Files.readString(path);
+        int from = document.indexOf("```java\n");
+        int lines = 0;
+        for (String line : document.substring(from + 8, document.indexOf("\n```", from + 8)).split("\n")) {
+            boolean isCall = line.endsWith(");");
+            String due = isCall ? line.replace(");", ") {") : line;
+            check.due("the source says: " + due.trim(), source.contains("\n" + due + "\n") ? 1 : 0, 1);
+            lines += isCall ? 1 : 0;
+        }
+        check.due("the constructor and the methods of the document", lines, 1 + FACE.split("\\|").length);
     }
 
     private static void names() {
@@ -94,7 +114,22 @@ public final class LanguageTest {
         seen.removeAll(Set.of("new Sheet", "new Reader", "new Land", "new Camp", "new OrderSearch", "new Hill",
                 "new boolean", "new int"));
         check.due("nothing else is made: " + seen, seen.size(), 0);
+        absent(code, "(?m)^(?!.*(private final \\w+(\\[\\])? \\w+|rows\\[r\\]|texts\\[t\\]|kept\\[k\\]|hills\\[h\\]|places)"
+                + " = new ).*\\bnew\\b");
+        library(code);
         longMethods(code);
+    }
+
+    /** What is called by a name of a class stands in rule 4, or is the source's own. */
+    private static void library(String code) {
+        Set<String> called = new TreeSet<>();
+        Matcher call = Pattern.compile("\\b[A-Z]\\w*\\.\\w+(?=\\()").matcher(code);
+        while (call.find()) {
+            called.add(call.group());
+        }
+        called.removeAll(Set.of("Math.max", "Math.min", "Integer.bitCount", "System.arraycopy", "Hill.sumOf"));
+        check.due("nothing else of the library is called: " + called, called.size(), 0);
+        absent(code, "\\b(String|StringBuilder|double|float|List|ArrayList|Object|var|enum|interface|Iterator)\\b");
     }
 
     private static void absent(String code, String pattern) {
